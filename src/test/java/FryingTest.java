@@ -68,6 +68,10 @@ public final class FryingTest {
         due("fry", x.fry(0), 1);
         CHECKS.dueAll("21 by 5, 94 by 5", Checks.cakeRow(x, 0), 1, 4, 18, 0, 1, 0, 4);
         CHECKS.dueAll("WARMTH", Checks.warmthRow(x), 154, 154, 154, 154);
+        FirstPancake swung = Checks.with("99/99", "f9a4nt1u1");
+        due("warm", swung.warm(9, 1), 81);
+        due("fry", swung.fry(0), 0);
+        CHECKS.dueAll("14 by the SWING's TICK, 25 behind it", Checks.cakeRow(swung, 0), 0, 39, 35, 0, 1, 0, 10);
         FirstPancake y = Checks.with("55/55", "f1a9t1u1");
         due("warm", y.warm(2, 5), 43);
         y.fry(0);
@@ -75,8 +79,9 @@ public final class FryingTest {
     }
 
     private static void promise12Swings() {
-        String[] swings = {"n", "ne", "nes", "nesw"};
-        int[][] thick = {{0, 5, 0, 0, 5, 0, 0, 0, 0}, {0, 3, 2, 0, 3, 2, 0, 0, 0}, {0, 2, 1, 0, 3, 2, 0, 1, 1},
+        String[] swings = {"n", "e", "s", "w", "ne", "nes", "nesw"};
+        int[][] thick = {{0, 5, 0, 0, 5, 0, 0, 0, 0}, {0, 0, 0, 0, 5, 5, 0, 0, 0}, {0, 0, 0, 0, 5, 0, 0, 5, 0},
+            {0, 0, 0, 5, 5, 0, 0, 0, 0}, {0, 3, 2, 0, 3, 2, 0, 0, 0}, {0, 2, 1, 0, 3, 2, 0, 1, 1},
             {1, 1, 1, 1, 3, 1, 0, 1, 1}};
         for (int i = 0; i < swings.length; i++) {
             FirstPancake x = Checks.with("111/111/111", "f1a10" + swings[i] + "t1u1");
@@ -121,6 +126,10 @@ public final class FryingTest {
         x.fat(1);
         due("FAT above BITS", x.fry(0), 1);
         due("FAT is 1 less", x.count(4), 0);
+        FirstPancake fat = Checks.with("11/11", "f1a1t1u1");
+        fat.fat(9);
+        fat.fry(0);
+        due("FAT is 1 less", fat.count(4), 8);
         due("FAT 0, BITS 0", x.fry(0), 5);
         due("FAT is 0 at least", x.count(4), 0);
         due("BITS there", x.cell(3, 3), 1);

@@ -87,6 +87,9 @@ public final class WouldBeTest {
         fromAndDogsDue(used("16/1s6", 0, 3, 1, "f3a3t1u2"), 11, 11);
         fromAndDogsDue(used("23s/36", 2, 4, 6, "f5a8t3u1"), Checks.NONE, 1);
         fromAndDogsDue(used("12/31", 0, 5, 6, "f6a2t6u1"), Checks.NONE, 12);
+        // The thirteenth would be wrong here, and right there.
+        fromAndDogsDue(used("86/99", 0, 0, 1, "f3a4t2u1"), 2, 2);
+        fromAndDogsDue(used("84/87", 0, 0, 1, "f4a12t2u1"), Checks.NONE, 12);
         fromAndDogsDue(used("55/55", 9, 3, 200, "f3a3t2u9"), 0, 0);
     }
 
@@ -94,6 +97,9 @@ public final class WouldBeTest {
         due("RIGHT", used("55/55", 0, 3, 200, "f3a3t2u9").why(0), Checks.NONE);
         due("nothing alone", used("12/31", 0, 5, 6, "f6a2t6u1").why(0), 0);
         due("1: it is not warm yet", used("66/66", 0, 0, 1, "f3a3t2u9").why(0), 1);
+        due("behind six, not five", used("73/56", 0, 0, 1, "f3a6t2u2").why(0), 1);
+        due("behind six, not seven", used("76/69", 0, 0, 1, "f2a3t3u1").why(0), 1);
+        due("behind seven alone", used("94/39", 0, 0, 1, "f1a2t3u3").why(0), 0);
         due("2: FAT", used("55/24s", 0, 3, 6, "f4a4t6u9").why(0), 2);
         FirstPancake bits = Checks.with("44/54s", "f3a7t9u4");
         for (int i = 0; i < 2; i++) {
@@ -147,6 +153,9 @@ public final class WouldBeTest {
                 due("it changes nothing", x.digest(), before);
             }
         }
+        FirstPancake weak = Checks.with("11/11", "f1a2t30u1");
+        due("the greatest FIRE is tried", weak.bestFire(0, 1, 0), 7);
+        due("the greatest FIRE is tried", Checks.with("11/11", "f1a2t19u1").bestFire(0, 1, 0), 9);
         FirstPancake cold = Checks.with("00/00", "f5a1t1u1");
         due("of like ones the least", cold.bestFire(0, 12, 0), 1);
         due("twelve PALE ones", cold.bestFire(0, 12, 1), 48);
