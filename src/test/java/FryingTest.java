@@ -119,6 +119,11 @@ public final class FryingTest {
         due("warm", y.warm(9, 200), 180);
         due("LOPSIDED", y.fry(0), 4);
         CHECKS.dueAll("FAST for good, and what comes to it stays", Checks.thickRow(y, 0), 0, 45, 0, 15);
+        FirstPancake thin = Checks.with("22/20", "f1a3nnst1u1");
+        thin.warm(9, 200);
+        due("warm", thin.warm(0, 4), 119);
+        thin.fry(0);
+        CHECKS.dueAll("FAST with THICK 1, too", Checks.thickRow(thin, 0), 0, 2, 0, 1);
     }
 
     private static void promise12Stuck() {
