@@ -15,6 +15,8 @@ public final class FirstPancake {
     private static final int MOST_COLUMNS = 4;
     private static final int MOST_CELLS = 16;
     private static final int MOST_SWINGS = 6;
+    /** No THICK, and so no EDGE, is as great: AMOUNT is 60 at most. */
+    private static final int BEYOND_THICK = 61;
     private static final int MOST_FAT = 9;
     private static final int MOST_BITS = 9;
     private static final int MOST_FIRE = 9;
@@ -328,7 +330,7 @@ public final class FirstPancake {
         }
         int above = Wrist.landings(pace, spin, slip);
         int below = Wrist.paces(pace, slip);
-        int common = Wrist.commonDivisor(above, below);
+        int common = Math.max(1, Wrist.commonDivisor(above, below));
         return (part == 0 ? above : below) / common;
     }
 
@@ -771,7 +773,7 @@ public final class FirstPancake {
 
         /** EDGE and how many cells it covers, from THICK alone. */
         void measure() {
-            int least = Integer.MAX_VALUE;
+            int least = BEYOND_THICK;
             int greatest = 0;
             int covered = 0;
             for (int c = 0; c < MOST_CELLS; c++) {
@@ -1026,7 +1028,7 @@ public final class FirstPancake {
         void findSwings(Condition now, Plan plan, int k) {
             variant.become(plan);
             variant.swingCount = Math.min(k, MOST_SWINGS);
-            value = Integer.MAX_VALUE;
+            value = BEYOND_THICK;
             for (int row = 0; row < 1 << (2 * k); row++) {
                 for (int i = 0; i < variant.swingCount; i++) {
                     variant.swings[i] = swingOf(row, k, i);
