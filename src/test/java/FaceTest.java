@@ -22,7 +22,8 @@ public final class FaceTest {
         "bestSwing int int int", "nextTwo int", "rounds int int int int int int", "toss int int",
         "lands int int int int", "bestSpin int int", "image", "restore", "count int", "digest"};
     private static final String[] FORBIDDEN = {"catch", "throw", "try", "finally", "synchronized", "assert", "static {",
-        "->", "::", "System.out", "double", "float", "extends Exception", "protected", "@"};
+        "->", "::", "System.out", "double", "float", "extends Exception", "protected", "@",
+        "MAX_VALUE", "MIN_VALUE"};
 
     private static void theFace() {
         Set<String> found = new TreeSet<>();
