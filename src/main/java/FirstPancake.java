@@ -39,8 +39,9 @@ public final class FirstPancake {
     private final Page page = new Page();
     private final PanText panText = new PanText();
     private final PlanText planText = new PlanText();
-    private final Pan pan = new Pan();
-    private final Foresight foresight = new Foresight(pan);
+    private final Foresight foresight = new Foresight();
+    /** Foresight makes THE PAN, for a constructor may not hand out a part of its object to it. */
+    private final Pan pan = foresight.pan;
     private final Condition now = new Condition();
     private final Condition kept = new Condition();
     private final Plan[] plans = new Plan[MOST_PLANS];
@@ -924,7 +925,7 @@ public final class FirstPancake {
 
     /** What would be: fries on conditions of its own, so THE PAN stays as it is. */
     private static final class Foresight {
-        private final Pan pan;
+        final Pan pan = new Pan();
         private final Condition trial = new Condition();
         private final Condition later = new Condition();
         private final Cake cake = new Cake();
@@ -932,10 +933,6 @@ public final class FirstPancake {
         int found;
         int foundBehind;
         int value;
-
-        Foresight(Pan pan) {
-            this.pan = pan;
-        }
 
         /** The next one; the same object is used by every trial. */
         Cake next(Condition now, Plan plan) {
